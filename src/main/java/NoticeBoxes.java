@@ -19,8 +19,8 @@ public final class NoticeBoxes {
     private static final int ANY = 0, AT_MOST = 1, AT_LEAST = 2, JUST = 3;
 
     private final State now = new State();
-    private final Tellings tellings = new Tellings(now);
-    private final Journey journey = new Journey(now, tellings);
+    private final Tellings tellings = new Tellings();
+    private final Journey journey = new Journey();
     private final Past past = new Past();
     private final Book book = new Book();
     private final Draws draws = new Draws();
@@ -41,7 +41,9 @@ public final class NoticeBoxes {
             case 2: return now.wishCount;
             case 3: return now.mostTold;
             case 4: return now.nextNotice;
-            case 5: return tellings.countAll();
+            case 5:
+                tellings.refresh(now);
+                return tellings.countAll(now);
             case 6: return now.linkSum;
             case 7: return now.vainSum;
             case 8: return book.count;
@@ -94,12 +96,14 @@ public final class NoticeBoxes {
 
     public int toldOn(int b, int n) {
         if (!now.areNeighbours(b, n)) return UNKNOWN;
-        return tellings.between(b, n).count;
+        tellings.refresh(now);
+        return tellings.between(now, b, n).count;
     }
 
     public int box(int b, int n, int i, int what) {
         if (!now.areNeighbours(b, n)) return UNKNOWN;
-        BoxList list = tellings.between(b, n);
+        tellings.refresh(now);
+        BoxList list = tellings.between(now, b, n);
         if (!within(i, 0, list.count - 1)) return UNKNOWN;
         if (!within(what, 0, 7)) return OUTSIDE;
         int one = list.boxes[i];
@@ -111,7 +115,8 @@ public final class NoticeBoxes {
     public int would(int b, int x, int y, int z, int what) {
         if (!now.hasBroker(b)) return UNKNOWN;
         if (!isNotice(x, y, z) || !within(what, 0, 3)) return OUTSIDE;
-        journey.travel(b, Box.ofNotice(x, y, z));
+        tellings.refresh(now);
+        journey.travel(now, tellings, b, Box.ofNotice(x, y, z));
         switch (what) {
             case 0: return journey.places;
             case 1: return journey.getters;
@@ -169,6 +174,7 @@ public final class NoticeBoxes {
     public int put(int b, int x, int y, int z) {
         if (!now.hasBroker(b)) return UNKNOWN;
         if (!isNotice(x, y, z)) return OUTSIDE;
+        tellings.refresh(now);
         return deliver(b, Box.ofNotice(x, y, z));
     }
 
@@ -200,6 +206,7 @@ public final class NoticeBoxes {
 
     public int drift(int n) {
         if (!within(n, 1, MAX_DRIFT)) return OUTSIDE;
+        tellings.refresh(now);
         for (int i = 0; i < n; i++) {
             int b = draws.draw(now.brokerCount);
             int x = draws.draw(MAX_VALUE + 1);
@@ -260,13 +267,17 @@ public final class NoticeBoxes {
 
     private int deliver(int b, int notice) {
         past.remember(now);
-        journey.travel(b, notice);
+        journey.travel(now, tellings, b, notice);
         now.hand(journey);
         return Integer.bitCount(journey.getters);
     }
 
     private static boolean within(int v, int low, int high) {
         return low <= v && v <= high;
+    }
+
+    private static boolean holds(int set, int k) {
+        return ((set >> k) & 1) == 1;
     }
 
     private static boolean isKind(int kind) {
@@ -287,7 +298,7 @@ public final class NoticeBoxes {
         }
 
         static int withBounds(int box, int from, int to) {
-            return box << 8 | from << 4 | to;
+            return (box << 8) | (from << 4) | to;
         }
 
         static int withKind(int box, int kind, int v) {
@@ -297,19 +308,23 @@ public final class NoticeBoxes {
         }
 
         static int bound(int box, int k) {
-            return box >> 4 * (BOUNDS - 1 - k) & 15;
+            return (box >> (20 - 4 * k)) & 15;
         }
 
         static int from(int box, int thing) {
-            return bound(box, 2 * thing);
+            return (box >> (20 - 8 * thing)) & 15;
         }
 
         static int to(int box, int thing) {
-            return bound(box, 2 * thing + 1);
+            return (box >> (16 - 8 * thing)) & 15;
         }
 
         static int size(int box) {
-            return sizeOfCommon(box, box);
+            int size = 1;
+            for (int t = 0; t < THINGS; t++) {
+                size *= to(box, t) - from(box, t) + 1;
+            }
+            return size;
         }
 
         static int sizeOfCommon(int a, int b) {
@@ -348,10 +363,6 @@ public final class NoticeBoxes {
         final int[] boxes = new int[MAX_WISHES];
         int count;
 
-        void clear() {
-            count = 0;
-        }
-
         boolean covers(int box) {
             for (int i = 0; i < count; i++) {
                 if (Box.covers(boxes[i], box)) return true;
@@ -365,16 +376,21 @@ public final class NoticeBoxes {
             insert(box);
         }
 
-        void addAll(BoxList other) {
-            for (int i = 0; i < other.count; i++) {
-                add(other.boxes[i]);
+        /** The box that two of these make, those by which least is wasted. */
+        int cheapestJoin() {
+            int least = Integer.MAX_VALUE;
+            int cheapest = 0;
+            for (int i = 0; i < count; i++) {
+                for (int j = i + 1; j < count; j++) {
+                    int waste = Box.waste(boxes[i], boxes[j]);
+                    // Only a lesser waste wins, so that of like pairs the first in order stays.
+                    if (waste < least) {
+                        least = waste;
+                        cheapest = Box.joined(boxes[i], boxes[j]);
+                    }
+                }
             }
-        }
-
-        void joinDownTo(int limit) {
-            for (int turn = 0; turn < MAX_WISHES && count > limit; turn++) {
-                joinCheapestPair();
-            }
+            return cheapest;
         }
 
         private void removeCoveredBy(int box) {
@@ -397,22 +413,6 @@ public final class NoticeBoxes {
             }
             boxes[place] = box;
             count++;
-        }
-
-        private void joinCheapestPair() {
-            int least = Integer.MAX_VALUE;
-            int cheapest = 0;
-            for (int i = 0; i < count; i++) {
-                for (int j = i + 1; j < count; j++) {
-                    int waste = Box.waste(boxes[i], boxes[j]);
-                    // Only a lesser waste wins, so that of like pairs the first in order stays.
-                    if (waste < least) {
-                        least = waste;
-                        cheapest = Box.joined(boxes[i], boxes[j]);
-                    }
-                }
-            }
-            if (least < Integer.MAX_VALUE) add(cheapest);
         }
     }
 
@@ -467,19 +467,25 @@ public final class NoticeBoxes {
         }
 
         private void enter(int notice) {
-            System.arraycopy(latestFirst, 0, latestFirst, 1, LOG_LENGTH - 1);
+            for (int i = LOG_LENGTH - 1; i > 0; i--) {
+                latestFirst[i] = latestFirst[i - 1];
+            }
             latestFirst[0] = notice;
             had++;
         }
 
         private void store(int notice) {
-            if (keptCount >= MAX_KEPT) {
-                System.arraycopy(kept, 1, kept, 0, MAX_KEPT - 1);
-                keptCount = MAX_KEPT - 1;
-                lost++;
-            }
+            if (keptCount >= MAX_KEPT) loseFirst();
             kept[keptCount] = notice;
             keptCount++;
+        }
+
+        private void loseFirst() {
+            for (int i = 0; i < MAX_KEPT - 1; i++) {
+                kept[i] = kept[i + 1];
+            }
+            keptCount = MAX_KEPT - 1;
+            lost++;
         }
     }
 
@@ -555,7 +561,7 @@ public final class NoticeBoxes {
         int wishesOf(int clientSet) {
             int set = 0;
             for (int w = 0; w < wishCount; w++) {
-                if ((clientSet >> wishers[w] & 1) == 1) set |= 1 << w;
+                if (holds(clientSet, wishers[w])) set |= 1 << w;
             }
             return set;
         }
@@ -619,7 +625,7 @@ public final class NoticeBoxes {
 
         void hand(Journey journey) {
             for (int c = 0; c < clientCount; c++) {
-                if ((journey.getters >> c & 1) == 1) clients[c].receive(nextNotice);
+                if (holds(journey.getters, c)) clients[c].receive(nextNotice);
             }
             nextNotice++;
             linkSum += journey.links;
@@ -627,16 +633,14 @@ public final class NoticeBoxes {
         }
     }
 
-    /** What brokers tell on, worked out when it is first asked after a change. */
+    /** What brokers tell on: it may be asked only behind refresh(), which works it out anew after a change. */
     private static final class Tellings {
-        private final State state;
         // Each broker but 0 has one link to the one above it: both ways have the lower broker's number.
         private final BoxList[] upward = new BoxList[MAX_BROKERS];
         private final BoxList[] downward = new BoxList[MAX_BROKERS];
         private boolean fresh;
 
-        Tellings(State state) {
-            this.state = state;
+        Tellings() {
             for (int b = 0; b < MAX_BROKERS; b++) {
                 upward[b] = new BoxList();
                 downward[b] = new BoxList();
@@ -648,13 +652,11 @@ public final class NoticeBoxes {
         }
 
         /** The two must be neighbours. */
-        BoxList between(int from, int to) {
-            refresh();
-            return listOf(from, to);
+        BoxList between(State state, int from, int to) {
+            return state.above[from] == to ? upward[from] : downward[to];
         }
 
-        int countAll() {
-            refresh();
+        int countAll(State state) {
             int sum = 0;
             for (int b = 1; b < state.brokerCount; b++) {
                 sum += upward[b].count + downward[b].count;
@@ -662,53 +664,48 @@ public final class NoticeBoxes {
             return sum;
         }
 
-        private BoxList listOf(int from, int to) {
-            return state.above[from] == to ? upward[from] : downward[to];
-        }
-
         // A broker's number is greater than that of the one above it: so what a list is made from
         // is always made ahead of it, first all that goes up, from the last broker on, then down.
-        private void refresh() {
+        void refresh(State state) {
             if (fresh) return;
             for (int b = state.brokerCount - 1; b > 0; b--) {
-                gather(b, state.above[b]);
+                gather(state, b, state.above[b]);
             }
             for (int b = 1; b < state.brokerCount; b++) {
-                gather(state.above[b], b);
+                gather(state, state.above[b], b);
             }
             fresh = true;
         }
 
-        private void gather(int from, int to) {
-            BoxList list = listOf(from, to);
-            list.clear();
+        private void gather(State state, int from, int to) {
+            BoxList list = between(state, from, to);
+            list.count = 0;
             int wishes = state.wishesOf(state.clientsHomeAt(from));
             for (int w = 0; w < state.wishCount; w++) {
-                if ((wishes >> w & 1) == 1) list.add(state.wishBoxes[w]);
+                if (holds(wishes, w)) list.add(state.wishBoxes[w]);
             }
             for (int n = 0; n < state.brokerCount; n++) {
-                if (n != to && state.areNeighbours(n, from)) list.addAll(listOf(n, from));
+                if (n == to || !state.areNeighbours(n, from)) continue;
+                BoxList heard = between(state, n, from);
+                for (int i = 0; i < heard.count; i++) {
+                    list.add(heard.boxes[i]);
+                }
             }
-            list.joinDownTo(state.mostTold);
+            for (int turn = 0; turn < MAX_WISHES && list.count > state.mostTold; turn++) {
+                list.add(list.cheapestJoin());
+            }
         }
     }
 
     /** The way of one notice; its sets hold until the next travel. */
     private static final class Journey {
-        private final State state;
-        private final Tellings tellings;
         private final int[] reached = new int[MAX_BROKERS];
         int places;
         int getters;
         int vain;
         int links;
 
-        Journey(State state, Tellings tellings) {
-            this.state = state;
-            this.tellings = tellings;
-        }
-
-        void travel(int start, int notice) {
+        void travel(State state, Tellings tellings, int start, int notice) {
             int wishing = state.clientsWishing(notice);
             int useful = 1 << start;
             places = 1 << start;
@@ -719,17 +716,17 @@ public final class NoticeBoxes {
                 int here = reached[i];
                 int gettingHere = wishing & state.clientsHomeAt(here);
                 getters |= gettingHere;
-                if (goOn(here, notice) || gettingHere != 0) useful |= 1 << here;
+                if (goOn(state, tellings, here, notice) || gettingHere != 0) useful |= 1 << here;
             }
             vain = places & ~useful;
         }
 
         // In a tree the only neighbour where the notice is already is the one from which it came.
-        private boolean goOn(int here, int notice) {
+        private boolean goOn(State state, Tellings tellings, int here, int notice) {
             int before = links;
-            for (int n = 0; n < state.brokerCount; n++) {
-                boolean isNew = (places >> n & 1) == 0;
-                if (isNew && state.areNeighbours(n, here) && tellings.between(n, here).covers(notice)) {
+            for (int n = 0; n < state.brokerCount && links < MAX_BROKERS - 1; n++) {
+                boolean isNew = !holds(places, n);
+                if (isNew && state.areNeighbours(n, here) && tellings.between(state, n, here).covers(notice)) {
                     places |= 1 << n;
                     links++;
                     reached[links] = n;
@@ -795,7 +792,7 @@ public final class NoticeBoxes {
         int value;
 
         int draw(int n) {
-            value = value * 1103515245 + 12345 & Integer.MAX_VALUE;
+            value = (value * 1103515245 + 12345) & Integer.MAX_VALUE;
             return n > 0 ? value / 65536 % n : 0;
         }
     }

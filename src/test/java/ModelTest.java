@@ -131,73 +131,9 @@ public final class ModelTest {
         }
     }
 
-    private void call(String name, int... a) {
-        StringBuilder text = new StringBuilder(name).append('(');
-        for (int i = 0; i < a.length; i++) {
-            text.append(i == 0 ? "" : ", ").append(a[i]);
-        }
-        String written = text.append(')').toString();
+    private void call(String name, int... args) {
+        String written = Calls.written(name, args);
         calls.add(written);
-        Check.due(written, answerOfReal(name, a), answerOfModel(name, a));
-    }
-
-    private int answerOfReal(String name, int[] a) {
-        switch (name) {
-            case "told": return real.told(a[0]);
-            case "brokerAt": return real.brokerAt(a[0], a[1]);
-            case "clientAt": return real.clientAt(a[0], a[1]);
-            case "log": return real.log(a[0], a[1]);
-            case "wishAt": return real.wishAt(a[0], a[1]);
-            case "toldOn": return real.toldOn(a[0], a[1]);
-            case "box": return real.box(a[0], a[1], a[2], a[3]);
-            case "would": return real.would(a[0], a[1], a[2], a[3], a[4]);
-            case "broker": return real.broker(a[0]);
-            case "client": return real.client(a[0]);
-            case "wish": return real.wish(a[0], a[1], a[2], a[3], a[4], a[5], a[6]);
-            case "drop": return real.drop(a[0]);
-            case "most": return real.most(a[0]);
-            case "put": return real.put(a[0], a[1], a[2], a[3]);
-            case "leave": return real.leave(a[0]);
-            case "come": return real.come(a[0], a[1]);
-            case "part": return real.part();
-            case "drift": return real.drift(a[0]);
-            case "undo": return real.undo(a[0]);
-            case "write": return real.write(a[0], a[1]);
-            case "tear": return real.tear();
-            case "seed": return real.seed(a[0]);
-            case "keep": return real.keep(a[0]);
-            case "goBack": return real.goBack(a[0]);
-            default: throw new IllegalArgumentException(name);
-        }
-    }
-
-    private int answerOfModel(String name, int[] a) {
-        switch (name) {
-            case "told": return model.told(a[0]);
-            case "brokerAt": return model.brokerAt(a[0], a[1]);
-            case "clientAt": return model.clientAt(a[0], a[1]);
-            case "log": return model.log(a[0], a[1]);
-            case "wishAt": return model.wishAt(a[0], a[1]);
-            case "toldOn": return model.toldOn(a[0], a[1]);
-            case "box": return model.box(a[0], a[1], a[2], a[3]);
-            case "would": return model.would(a[0], a[1], a[2], a[3], a[4]);
-            case "broker": return model.broker(a[0]);
-            case "client": return model.client(a[0]);
-            case "wish": return model.wish(a[0], a[1], a[2], a[3], a[4], a[5], a[6]);
-            case "drop": return model.drop(a[0]);
-            case "most": return model.most(a[0]);
-            case "put": return model.put(a[0], a[1], a[2], a[3]);
-            case "leave": return model.leave(a[0]);
-            case "come": return model.come(a[0], a[1]);
-            case "part": return model.part();
-            case "drift": return model.drift(a[0]);
-            case "undo": return model.undo(a[0]);
-            case "write": return model.write(a[0], a[1]);
-            case "tear": return model.tear();
-            case "seed": return model.seed(a[0]);
-            case "keep": return model.keep(a[0]);
-            case "goBack": return model.goBack(a[0]);
-            default: throw new IllegalArgumentException(name);
-        }
+        Check.due(written, Calls.answer(real, name, args), Calls.answer(model, name, args));
     }
 }
