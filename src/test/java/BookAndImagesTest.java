@@ -68,5 +68,14 @@ public final class BookAndImagesTest {
             put(0, 5, 5, 5) = 0; keep(1) = 1; put(0, 5, 5, 5) = 0; told(6) = 2; told(7) = 2
             goBack(1) = 1; told(6) = 1; told(7) = 1; toldOn(1, 0) = 1
             """);
+        Calls.run("25 brokers and what is told on come back", """
+            broker(0) = 1; broker(1) = 2; client(2) = 0; wish(0, 3, 4, 0, 0, 0, 0) = 0; keep(0) = 1
+            drop(0) = 0; toldOn(2, 1) = 0; goBack(0) = 1; toldOn(2, 1) = 1; box(1, 0, 0, 0) = 4
+            part() = 0; told(5) = 0; goBack(0) = 1; told(5) = 2
+            """);
+        Calls.run("25 another tree comes back", """
+            broker(0) = 1; keep(1) = 1; broker(1) = 2; keep(0) = 1; goBack(1) = 1; broker(0) = 2; brokerAt(2, 0) = 0
+            goBack(0) = 1; brokerAt(2, 0) = 1; brokerAt(0, 1) = 2; toldOn(2, 1) = 0; toldOn(2, 0) = UNKNOWN
+            """);
     }
 }

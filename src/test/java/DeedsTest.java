@@ -145,6 +145,11 @@ public final class DeedsTest {
             client(0) = 1; clientAt(1, 1) = 1; clientAt(1, 3) = 0; clientAt(1, 5) = 0
             part() = 1; part() = 0; told(2) = 0; part() = NOT; told(10) = 13
             """);
+        Calls.run("18 nothing of the client that went is left to the next one", """
+            client(0) = 0; wish(0, 0, 0, 0, 0, 0, 0) = 0; put(0, 0, 0, 0) = 1; leave(0) = 0; drift(8) = 9; drift(1) = 10
+            clientAt(0, 4) = 1; part() = 0; client(0) = 0; clientAt(0, 1) = 1; clientAt(0, 2) = 0; clientAt(0, 3) = 0
+            clientAt(0, 4) = 0; clientAt(0, 5) = 0; log(0, 0) = NONE; leave(0) = 0; come(0, 0) = 0
+            """);
     }
 
     private static void promise19() {
@@ -155,6 +160,10 @@ public final class DeedsTest {
             drift(8) = 9; told(10) = 13
             drift(0) = OUTSIDE; drift(9) = OUTSIDE; drift(-1) = OUTSIDE; drift(2147483647) = OUTSIDE
             told(4) = 9; told(10) = 13
+            """);
+        Calls.run("19 a notice by draws goes where a wish has just come", """
+            broker(0) = 1; broker(0) = 2; client(2) = 0; toldOn(2, 0) = 0; wish(0, 0, 0, 0, 0, 0, 0) = 0; seed(5) = 0
+            drift(1) = 1; told(6) = 2; clientAt(0, 2) = 1
             """);
         // Reckoned apart, from 2147483647: seeds 1043980748, 288979989, 646343466, 1751031067: broker 1 of 2, then 9, 2, 8.
         Calls.run("19 from the greatest seed", """
@@ -205,6 +214,10 @@ public final class DeedsTest {
             clientAt(0, 3) = 0
             part() = 1; toldOn(0, 1) = 0; undo(1) = 6; told(1) = 2; told(2) = 3; toldOn(0, 1) = 1; clientAt(1, 5) = 4
             drift(3) = 3; undo(3) = 6; told(4) = 0; clientAt(1, 2) = 0
+            """);
+        Calls.run("20 a broker undone may come elsewhere, and be undone to where it was", """
+            broker(0) = 1; broker(1) = 2; undo(1) = 1; broker(0) = 2; brokerAt(2, 0) = 0; brokerAt(0, 1) = 6
+            undo(2) = 0; broker(0) = 1; broker(1) = 2; keep(0) = 1; goBack(0) = 1; brokerAt(2, 0) = 1
             """);
         Calls.run("20 links, vain and what is lost are undone too", """
             broker(0) = 1; client(1) = 0; most(1) = 9; wish(0, 3, 0, 3, 0, 3, 0) = 0; wish(0, 3, 9, 3, 9, 3, 9) = 1
