@@ -4,12 +4,6 @@ public final class BoundsTest {
         broker(0) = 1; broker(1) = 2; client(2) = 0; client(0) = 1; wish(0, 3, 4, 3, 5, 3, 6) = 0
         wish(0, 3, 4, 3, 5, 3, 8) = 1; wish(1, 0, 0, 0, 0, 0, 0) = 2
         """;
-    private static final String SEVEN_BROKERS = """
-        broker(0) = 1; broker(1) = 2; broker(2) = 3; broker(3) = 4; broker(4) = 5; broker(5) = 6
-        """;
-    private static final String SIX_CLIENTS = """
-        client(0) = 0; client(0) = 1; client(0) = 2; client(0) = 3; client(0) = 4; client(0) = 5
-        """;
     private static final String TWELVE_WISHES = """
         wish(0, 3, 0, 0, 0, 0, 0) = 0; wish(0, 3, 1, 0, 0, 0, 0) = 1; wish(0, 3, 2, 0, 0, 0, 0) = 2
         wish(0, 3, 3, 0, 0, 0, 0) = 3; wish(0, 3, 4, 0, 0, 0, 0) = 4; wish(0, 3, 5, 0, 0, 0, 0) = 5
@@ -77,7 +71,8 @@ public final class BoundsTest {
                 + Calls.beyond(0, 3, "brokerAt(2, ?) = OUTSIDE"));
         Calls.run("3: a BROKER that there is not, of one", "brokerAt(0, 0) = NONE\n"
                 + Calls.beyond(0, 0, "brokerAt(?, 0) = UNKNOWN"));
-        Calls.run("3: a BROKER that there is not, of seven", SEVEN_BROKERS + "brokerAt(0, 1) = 2; brokerAt(6, 1) = 32\n"
+        Calls.run("3: a BROKER that there is not, of seven", Setup.CHAIN_OF_SEVEN
+                + "brokerAt(0, 1) = 2; brokerAt(6, 1) = 32\n"
                 + Calls.beyond(0, 6, "brokerAt(?, 1) = UNKNOWN"));
         Calls.run("3: its ABOVE (NONE: 0)", """
             brokerAt(0, 0) = NONE; broker(0) = 1; brokerAt(0, 0) = NONE; brokerAt(1, 0) = 0
@@ -88,7 +83,8 @@ public final class BoundsTest {
         Calls.run("4: what 0 to 5", TREE + "clientAt(0, 0) = 2; clientAt(0, 5) = 3; clientAt(1, 5) = 4\n"
                 + Calls.beyond(0, 5, "clientAt(1, ?) = OUTSIDE"));
         Calls.run("4: a CLIENT that there is not, of none", Calls.beyond(0, -1, "clientAt(?, 0) = UNKNOWN"));
-        Calls.run("4: a CLIENT that there is not, of six", SIX_CLIENTS + "clientAt(0, 1) = 1; clientAt(5, 1) = 1\n"
+        Calls.run("4: a CLIENT that there is not, of six", Setup.SIX_CLIENTS
+                + "clientAt(0, 1) = 1; clientAt(5, 1) = 1\n"
                 + Calls.beyond(0, 5, "clientAt(?, 1) = UNKNOWN"));
     }
 
@@ -97,7 +93,7 @@ public final class BoundsTest {
                 + "log(1, 0) = NONE; log(1, 11) = NONE; put(0, 0, 0, 0) = 1; log(1, 0) = 0; log(1, 1) = NONE\n"
                 + Calls.beyond(0, 11, "log(1, ?) = OUTSIDE"));
         Calls.run("5: a CLIENT that there is not", TREE + Calls.beyond(0, 1, "log(?, 0) = UNKNOWN"));
-        Calls.run("5: of six CLIENTS", SIX_CLIENTS + "log(5, 11) = NONE\n"
+        Calls.run("5: of six CLIENTS", Setup.SIX_CLIENTS + "log(5, 11) = NONE\n"
                 + Calls.beyond(0, 5, "log(?, 11) = UNKNOWN"));
     }
 
@@ -108,7 +104,7 @@ public final class BoundsTest {
             """ + Calls.beyond(0, 8, "wishAt(2, ?) = OUTSIDE"));
         Calls.run("6: a WISH that there is not, of none", "client(0) = 0\n"
                 + Calls.beyond(0, -1, "wishAt(?, 0) = UNKNOWN"));
-        Calls.run("6: a WISH that there is not, of twelve", SIX_CLIENTS + TWELVE_WISHES
+        Calls.run("6: a WISH that there is not, of twelve", Setup.SIX_CLIENTS + TWELVE_WISHES
                 + "wishAt(0, 7) = 100; wishAt(11, 3) = 2\n"
                 + Calls.beyond(0, 11, "wishAt(?, 7) = UNKNOWN"));
         Calls.run("6: other WISHES that its BOX COVERS: not itself", """
@@ -121,7 +117,7 @@ public final class BoundsTest {
         Calls.run("7: BROKERS that there are not", TREE
                 + "toldOn(1, 0) = 2; toldOn(0, 1) = 1; toldOn(2, 1) = 2; toldOn(1, 2) = 1\n"
                 + Calls.beyond(0, 2, "toldOn(?, 1) = UNKNOWN") + Calls.beyond(0, 2, "toldOn(1, ?) = UNKNOWN"));
-        Calls.run("7: BROKERS that are no NEIGHBOURS, of seven", SEVEN_BROKERS + """
+        Calls.run("7: BROKERS that are no NEIGHBOURS, of seven", Setup.CHAIN_OF_SEVEN + """
             toldOn(6, 5) = 0; toldOn(5, 6) = 0; toldOn(6, 4) = UNKNOWN; toldOn(4, 6) = UNKNOWN; toldOn(6, 0) = UNKNOWN
             toldOn(0, 6) = UNKNOWN; toldOn(6, 6) = UNKNOWN; toldOn(0, 0) = UNKNOWN
             """ + Calls.beyond(0, 6, "toldOn(?, 6) = UNKNOWN") + Calls.beyond(0, 6, "toldOn(6, ?) = UNKNOWN"));
@@ -153,7 +149,7 @@ public final class BoundsTest {
         Calls.run("9: what 0 to 3", TREE + "would(2, 0, 0, 0, 0) = 7; would(2, 0, 0, 0, 3) = 2\n"
                 + Calls.beyond(0, 3, "would(2, 0, 0, 0, ?) = OUTSIDE"));
         Calls.run("9: a BROKER that there is not", TREE + Calls.beyond(0, 2, "would(?, 0, 0, 0, 0) = UNKNOWN"));
-        Calls.run("9: of seven BROKERS", SEVEN_BROKERS + "would(6, 9, 9, 9, 0) = 64\n"
+        Calls.run("9: of seven BROKERS", Setup.CHAIN_OF_SEVEN + "would(6, 9, 9, 9, 0) = 64\n"
                 + Calls.beyond(0, 6, "would(?, 9, 9, 9, 0) = UNKNOWN"));
     }
 
@@ -161,7 +157,7 @@ public final class BoundsTest {
         Calls.run("10: an ABOVE that there is not", Calls.beyond(0, 0, "broker(?) = UNKNOWN")
                 + "told(0) = 1; told(10) = 0; broker(0) = 1\n"
                 + Calls.beyond(0, 1, "broker(?) = UNKNOWN") + "told(0) = 2");
-        Calls.run("10: FULL (7)", SEVEN_BROKERS
+        Calls.run("10: FULL (7)", Setup.CHAIN_OF_SEVEN
                 + "broker(0) = FULL; broker(6) = FULL; told(0) = 7; told(10) = 6; brokerAt(6, 1) = 32\n"
                 + Calls.beyond(0, 6, "broker(?) = UNKNOWN"));
     }
@@ -169,14 +165,15 @@ public final class BoundsTest {
     private static void client() {
         Calls.run("11: a HOME that there is not", Calls.beyond(0, 0, "client(?) = UNKNOWN")
                 + "told(1) = 0; told(10) = 0\n"
-                + SEVEN_BROKERS + Calls.beyond(0, 6, "client(?) = UNKNOWN") + "client(6) = 0; clientAt(0, 0) = 6");
-        Calls.run("11: FULL (6)", SIX_CLIENTS + "client(0) = FULL; told(1) = 6; told(10) = 6\n"
+                + Setup.CHAIN_OF_SEVEN + Calls.beyond(0, 6, "client(?) = UNKNOWN")
+                + "client(6) = 0; clientAt(0, 0) = 6");
+        Calls.run("11: FULL (6)", Setup.SIX_CLIENTS + "client(0) = FULL; told(1) = 6; told(10) = 6\n"
                 + Calls.beyond(0, 0, "client(?) = UNKNOWN"));
     }
 
     private static void wish() {
         Calls.run("12: a CLIENT that there is not", Calls.beyond(0, -1, "wish(?, 0, 0, 0, 0, 0, 0) = UNKNOWN")
-                + SIX_CLIENTS
+                + Setup.SIX_CLIENTS
                 + Calls.beyond(0, 5, "wish(?, 0, 0, 0, 0, 0, 0) = UNKNOWN")
                 + "told(2) = 0; told(10) = 6; wish(5, 0, 0, 0, 0, 0, 0) = 0");
         Calls.run("12: each bound", "client(0) = 0; wish(0, 0, 0, 0, 0, 0, 0) = 0; wish(0, 3, 9, 3, 9, 3, 9) = 1\n"
@@ -190,7 +187,7 @@ public final class BoundsTest {
         Calls.run("12: v is within its bounds for ANY, too", """
             client(0) = 0; wish(0, 0, 9, 0, 9, 0, 9) = 0; wish(0, 0, 10, 0, 0, 0, 0) = OUTSIDE
             """);
-        Calls.run("12: FULL (12)", SIX_CLIENTS + TWELVE_WISHES + """
+        Calls.run("12: FULL (12)", Setup.SIX_CLIENTS + TWELVE_WISHES + """
             wish(0, 0, 0, 0, 0, 0, 0) = FULL; wish(5, 0, 0, 0, 0, 0, 0) = FULL; told(2) = 12; wishAt(11, 3) = 2
             clientAt(0, 5) = 4095
             """);
@@ -200,7 +197,7 @@ public final class BoundsTest {
         Calls.run("13: a WISH that there is not", TREE + Calls.beyond(0, 2, "drop(?) = UNKNOWN") + """
             told(2) = 3; told(10) = 7; drop(2) = 2; drop(2) = UNKNOWN; drop(0) = 1; drop(0) = 0; drop(0) = UNKNOWN
             """);
-        Calls.run("13: of twelve", SIX_CLIENTS + TWELVE_WISHES + Calls.beyond(0, 11, "drop(?) = UNKNOWN")
+        Calls.run("13: of twelve", Setup.SIX_CLIENTS + TWELVE_WISHES + Calls.beyond(0, 11, "drop(?) = UNKNOWN")
                 + "drop(11) = 11; drop(11) = UNKNOWN; drop(0) = 10; wishAt(0, 1) = 1; wishAt(9, 3) = 1");
     }
 
@@ -213,7 +210,7 @@ public final class BoundsTest {
     private static void put() {
         Calls.run("15: a BROKER that there is not", TREE + Calls.beyond(0, 2, "put(?, 0, 0, 0) = UNKNOWN")
                 + "told(4) = 0; told(10) = 7; put(2, 0, 0, 0) = 1");
-        Calls.run("15: of seven BROKERS", SEVEN_BROKERS + "put(6, 9, 9, 9) = 0; told(4) = 1\n"
+        Calls.run("15: of seven BROKERS", Setup.CHAIN_OF_SEVEN + "put(6, 9, 9, 9) = 0; told(4) = 1\n"
                 + Calls.beyond(0, 6, "put(?, 9, 9, 9) = UNKNOWN") + "told(4) = 1");
     }
 
@@ -224,7 +221,7 @@ public final class BoundsTest {
             leave(0) = 2; leave(0) = NOT; told(10) = 8; clientAt(0, 1) = 0; leave(1) = 0; leave(1) = NOT
             come(0, 0) = 0; leave(0) = 0
             """);
-        Calls.run("16: the last of six", SIX_CLIENTS
+        Calls.run("16: the last of six", Setup.SIX_CLIENTS
                 + "leave(5) = 0; leave(6) = UNKNOWN; clientAt(5, 1) = 0; clientAt(4, 1) = 1; come(5, 0) = 0");
         Calls.run("17: a CLIENT or a BROKER that there is not", TREE + "leave(0) = 2\n"
                 + Calls.beyond(0, 1, "come(?, 0) = UNKNOWN")
@@ -246,7 +243,7 @@ public final class BoundsTest {
         Calls.run("18: NOT: there is none", """
             part() = NOT; told(10) = 0; client(0) = 0; part() = 0; part() = NOT; told(10) = 2
             """);
-        Calls.run("18: of six", SIX_CLIENTS + """
+        Calls.run("18: of six", Setup.SIX_CLIENTS + """
             part() = 5; part() = 4; part() = 3; part() = 2; part() = 1; part() = 0; part() = NOT; told(10) = 12
             """);
         Calls.run("18: with its WISHES: all twelve, none", "client(0) = 0\n" + TWELVE_WISHES + """
@@ -267,18 +264,10 @@ public final class BoundsTest {
     private static void drift() {
         Calls.run("19: n (1 .. 8): NEXT", "drift(1) = 1; drift(8) = 9; told(4) = 9; told(10) = 9\n"
                 + Calls.beyond(1, 8, "drift(?) = OUTSIDE")
-                + "told(4) = 9; told(10) = 9; told(11) = " + seedAfter(36));
+                + "told(4) = 9; told(10) = 9; told(11) = " + Setup.seedAfter(0, 36));
         Calls.run("19: NEXT, behind NOTICES that were put", """
             put(0, 0, 0, 0) = 0; drift(2) = 3; put(0, 0, 0, 0) = 0; drift(1) = 5
             """);
-    }
-
-    private static int seedAfter(int draws) {
-        long seed = 0;
-        for (int i = 0; i < draws; i++) {
-            seed = (seed * 1103515245L + 12345L) % 2147483648L;
-        }
-        return (int) seed;
     }
 
     private static void undo() {
@@ -293,17 +282,14 @@ public final class BoundsTest {
     }
 
     private static void writeAndTear() {
-        Calls.run("21: a CLIENT that there is not", Calls.beyond(0, -1, "write(?, 0) = UNKNOWN") + SIX_CLIENTS
+        Calls.run("21: a CLIENT that there is not", Calls.beyond(0, -1, "write(?, 0) = UNKNOWN") + Setup.SIX_CLIENTS
                 + Calls.beyond(0, 5, "write(?, 0) = UNKNOWN")
                 + "told(8) = 0; write(5, 0) = 1; told(9) = NONE; write(0, 1) = 2; told(9) = 1");
         Calls.run("21: HAD of a CLIENT, any", """
             client(0) = 0; write(0, -2147483648) = 1; told(9) = 0; tear() = 1; write(0, 2147483647) = 1; told(9) = 0
             tear() = 1; write(0, -1) = 1; told(9) = 0; tear() = 1; write(0, 0) = 1; told(9) = NONE
             """);
-        StringBuilder twenty = new StringBuilder("client(0) = 0\n");
-        for (int i = 1; i <= 20; i++) {
-            twenty.append("write(0, 0) = ").append(i).append('\n');
-        }
+        String twenty = "client(0) = 0\n" + Setup.entries(20);
         Calls.run("21: FULL (20)", twenty
                 + "write(0, 0) = FULL; told(8) = 20; tear() = 20; write(0, 0) = 1; told(8) = 1");
         Calls.run("22: No BOOK: how much it had", twenty

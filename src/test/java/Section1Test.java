@@ -1,11 +1,5 @@
 /** The document's terms and its section 1, a run for each sentence that names an edge; the sentence is the title. */
 public final class Section1Test {
-    private static final String SEVEN_BROKERS = """
-        broker(0) = 1; broker(0) = 2; broker(0) = 3; broker(0) = 4; broker(0) = 5; broker(0) = 6
-        """;
-    private static final String SIX_CLIENTS = """
-        client(0) = 0; client(0) = 1; client(0) = 2; client(0) = 3; client(0) = 4; client(0) = 5
-        """;
     private static final String ELEVEN_WISHES = """
         wish(0, 0, 0, 0, 0, 0, 0) = 0; wish(0, 0, 0, 0, 0, 0, 0) = 1; wish(0, 0, 0, 0, 0, 0, 0) = 2
         wish(0, 0, 0, 0, 0, 0, 0) = 3; wish(0, 0, 0, 0, 0, 0, 0) = 4; wish(0, 0, 0, 0, 0, 0, 0) = 5
@@ -48,14 +42,14 @@ public final class Section1Test {
             would(0, 0, 0, 0, 1) = 0; would(0, 0, 0, 0, 2) = 0; client(0) = 0; clientAt(0, 5) = 0
             wish(0, 0, 0, 0, 0, 0, 0) = 0; wishAt(0, 8) = 0
             """);
-        Calls.run("A SET: full of NEIGHBOURS and BROKERS", SEVEN_BROKERS + """
+        Calls.run("A SET: full of NEIGHBOURS and BROKERS", Setup.STAR_OF_SEVEN + """
             brokerAt(0, 1) = 126; client(1) = 0; client(2) = 1; client(3) = 2; client(4) = 3; client(5) = 4
             client(6) = 5
             wish(0, 0, 0, 0, 0, 0, 0) = 0; wish(1, 0, 0, 0, 0, 0, 0) = 1; wish(2, 0, 0, 0, 0, 0, 0) = 2
             wish(3, 0, 0, 0, 0, 0, 0) = 3; wish(4, 0, 0, 0, 0, 0, 0) = 4; wish(5, 0, 0, 0, 0, 0, 0) = 5
             would(0, 0, 0, 0, 0) = 127; would(0, 0, 0, 0, 1) = 63; would(6, 0, 0, 0, 0) = 127
             """);
-        Calls.run("A SET: full of CLIENTS and WISHES", SIX_CLIENTS + ELEVEN_WISHES + """
+        Calls.run("A SET: full of CLIENTS and WISHES", Setup.SIX_CLIENTS + ELEVEN_WISHES + """
             wish(0, 0, 0, 0, 0, 0, 0) = 11; brokerAt(0, 2) = 63; brokerAt(0, 3) = 4095; clientAt(0, 5) = 4095
             wishAt(0, 8) = 4094; wishAt(11, 8) = 2047; clientAt(5, 5) = 0
             """);
@@ -64,7 +58,7 @@ public final class Section1Test {
     private static void brokers() {
         Calls.run("BROKERS 0 to B less 1 (B 1 .. 7; 1 at first)", """
             told(0) = 1; brokerAt(0, 0) = NONE; brokerAt(1, 0) = UNKNOWN
-            """ + SEVEN_BROKERS + """
+            """ + Setup.STAR_OF_SEVEN + """
             told(0) = 7; brokerAt(6, 0) = 0; brokerAt(7, 0) = UNKNOWN; broker(0) = FULL; told(0) = 7
             undo(1) = 5; told(0) = 6; brokerAt(6, 0) = UNKNOWN; broker(5) = 6; broker(5) = FULL
             """);
@@ -88,7 +82,7 @@ public final class Section1Test {
     private static void clients() {
         Calls.run("CLIENTS 0 on (6 at most, none at first)", """
             told(1) = 0; clientAt(0, 0) = UNKNOWN
-            """ + SIX_CLIENTS + """
+            """ + Setup.SIX_CLIENTS + """
             told(1) = 6; clientAt(5, 0) = 0; clientAt(6, 0) = UNKNOWN; client(0) = FULL; told(1) = 6
             part() = 5; clientAt(5, 0) = UNKNOWN; client(0) = 5; client(0) = FULL; undo(1) = 7; client(0) = 5
             """);

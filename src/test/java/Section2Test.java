@@ -39,8 +39,7 @@ public final class Section2Test {
             toldOn(0, 1) = 3; box(0, 1, 0, 0) = 0; box(0, 1, 1, 0) = 2; box(0, 1, 2, 0) = 3
             toldOn(0, 2) = 3; box(0, 2, 1, 0) = 1; toldOn(0, 3) = 3; box(0, 3, 2, 0) = 2; toldOn(1, 0) = 1; told(5) = 12
             """);
-        Calls.run("through all of seven BROKERS, from the first to the last and back", """
-            broker(0) = 1; broker(1) = 2; broker(2) = 3; broker(3) = 4; broker(4) = 5; broker(5) = 6
+        Calls.run("through all of seven BROKERS, from the first to the last and back", Setup.CHAIN_OF_SEVEN + """
             client(6) = 0; client(0) = 1; wish(0, 3, 6, 0, 0, 0, 0) = 0; wish(1, 3, 1, 0, 0, 0, 0) = 1
             toldOn(1, 0) = 1; box(1, 0, 0, 0) = 6; toldOn(5, 6) = 1; box(5, 6, 0, 0) = 1; told(5) = 12
             """);

@@ -1,10 +1,5 @@
 /** The document's section 3, a run for each sentence that names an edge; the sentence is the title. */
 public final class Section3Test {
-    private static final String ONE_CLIENT = "client(0) = 0; wish(0, 0, 0, 0, 0, 0, 0) = 0\n";
-    private static final String CHAIN = """
-        broker(0) = 1; broker(1) = 2; broker(2) = 3; broker(3) = 4; broker(4) = 5; broker(5) = 6
-        """;
-
     public static void main(String[] args) {
         numbered();
         goesOn();
@@ -18,7 +13,7 @@ public final class Section3Test {
     }
 
     private static void numbered() {
-        Calls.run("numbered: 0, 1, ..; at first NEXT is 0", ONE_CLIENT + """
+        Calls.run("numbered: 0, 1, ..; at first NEXT is 0", Setup.ONE_CLIENT + """
             told(4) = 0; put(0, 0, 0, 0) = 1; log(0, 0) = 0; told(4) = 1; put(0, 0, 0, 0) = 1; log(0, 0) = 1
             told(4) = 2
             """);
@@ -66,14 +61,13 @@ public final class Section3Test {
             put(0, 0, 0, 0) = 0; told(6) = 0; broker(0) = 1; put(0, 0, 0, 0) = 0; put(1, 0, 0, 0) = 0; told(6) = 0
             client(1) = 0; wish(0, 0, 0, 0, 0, 0, 0) = 0; put(1, 0, 0, 0) = 1; told(6) = 0
             """);
-        Calls.run("LINKS: six in a row, the most", CHAIN + """
+        Calls.run("LINKS: six in a row, the most", Setup.CHAIN_OF_SEVEN + """
             client(6) = 0; client(0) = 1; wish(0, 0, 0, 0, 0, 0, 0) = 0
             would(0, 0, 0, 0, 3) = 6; would(0, 0, 0, 0, 0) = 127; would(3, 0, 0, 0, 0) = 120; would(3, 0, 0, 0, 3) = 3
             would(6, 0, 0, 0, 3) = 0; put(0, 0, 0, 0) = 1; told(6) = 6; put(3, 0, 0, 0) = 1; told(6) = 9
             wish(1, 0, 0, 0, 0, 0, 0) = 1; put(6, 0, 0, 0) = 2; told(6) = 15; would(3, 0, 0, 0, 3) = 6
             """);
-        Calls.run("LINKS: six from one BROKER, and from the edge", """
-            broker(0) = 1; broker(0) = 2; broker(0) = 3; broker(0) = 4; broker(0) = 5; broker(0) = 6
+        Calls.run("LINKS: six from one BROKER, and from the edge", Setup.STAR_OF_SEVEN + """
             client(1) = 0; client(2) = 1; client(3) = 2; client(4) = 3; client(5) = 4; client(6) = 5
             wish(0, 0, 0, 0, 0, 0, 0) = 0; wish(1, 0, 0, 0, 0, 0, 0) = 1; wish(2, 0, 0, 0, 0, 0, 0) = 2
             wish(3, 0, 0, 0, 0, 0, 0) = 3; wish(4, 0, 0, 0, 0, 0, 0) = 4; wish(5, 0, 0, 0, 0, 0, 0) = 5
@@ -101,37 +95,37 @@ public final class Section3Test {
     }
 
     private static void log() {
-        Calls.run("the latest 12 are in it: none, eleven, twelve", ONE_CLIENT + """
+        Calls.run("the latest 12 are in it: none, eleven, twelve", Setup.ONE_CLIENT + """
             log(0, 0) = NONE; 11 * put(0, 0, 0, 0) = 1; log(0, 10) = 0; log(0, 11) = NONE
             put(0, 0, 0, 0) = 1; log(0, 11) = 0; log(0, 0) = 11
             """);
-        Calls.run("the latest 12 are in it: the thirteenth makes the first one go", ONE_CLIENT + """
+        Calls.run("the latest 12 are in it: the thirteenth makes the first one go", Setup.ONE_CLIENT + """
             13 * put(0, 0, 0, 0) = 1; log(0, 0) = 12; log(0, 1) = 11; log(0, 10) = 2; log(0, 11) = 1
             log(0, 12) = OUTSIDE
             12 * put(0, 0, 0, 0) = 1; log(0, 0) = 24; log(0, 11) = 13
             """);
-        Calls.run("HAD counts all", ONE_CLIENT + """
+        Calls.run("HAD counts all", Setup.ONE_CLIENT + """
             clientAt(0, 2) = 0; 12 * put(0, 0, 0, 0) = 1; clientAt(0, 2) = 12; put(0, 0, 0, 0) = 1; clientAt(0, 2) = 13
             100 * put(0, 0, 0, 0) = 1; clientAt(0, 2) = 113
             """);
     }
 
     private static void kept() {
-        Calls.run("KEPT (8 at most): none, seven, eight", ONE_CLIENT + """
+        Calls.run("KEPT (8 at most): none, seven, eight", Setup.ONE_CLIENT + """
             put(0, 0, 0, 0) = 1; clientAt(0, 3) = 0; leave(0) = 0; clientAt(0, 3) = 0
             7 * put(0, 0, 0, 0) = 1; clientAt(0, 3) = 7; put(0, 0, 0, 0) = 1; clientAt(0, 3) = 8; clientAt(0, 4) = 0
             clientAt(0, 2) = 1; log(0, 0) = 0; log(0, 1) = NONE
             """);
-        Calls.run("if there are 8, the first one is LOST", ONE_CLIENT + """
+        Calls.run("if there are 8, the first one is LOST", Setup.ONE_CLIENT + """
             leave(0) = 0; 9 * put(0, 0, 0, 0) = 1; clientAt(0, 3) = 8; clientAt(0, 4) = 1; come(0, 0) = 8
             log(0, 0) = 8; log(0, 7) = 1; log(0, 8) = NONE; clientAt(0, 2) = 8; clientAt(0, 3) = 0; clientAt(0, 4) = 1
             """);
-        Calls.run("if there are 8, the first one is LOST: each time anew", ONE_CLIENT + """
+        Calls.run("if there are 8, the first one is LOST: each time anew", Setup.ONE_CLIENT + """
             leave(0) = 0; 17 * put(0, 0, 0, 0) = 1; clientAt(0, 3) = 8; clientAt(0, 4) = 9; come(0, 0) = 8
             log(0, 0) = 16; log(0, 7) = 9; leave(0) = 0; 9 * put(0, 0, 0, 0) = 1; clientAt(0, 4) = 10
             come(0, 0) = 8; log(0, 0) = 25; log(0, 7) = 18; log(0, 8) = 16; log(0, 11) = 13; clientAt(0, 2) = 16
             """);
-        Calls.run("KEPT for it: for each CLIENT that is AWAY its own", ONE_CLIENT + """
+        Calls.run("KEPT for it: for each CLIENT that is AWAY its own", Setup.ONE_CLIENT + """
             client(0) = 1; wish(1, 3, 5, 0, 0, 0, 0) = 1; leave(0) = 0; put(0, 5, 0, 0) = 2; clientAt(1, 2) = 1
             leave(1) = 0; put(0, 5, 0, 0) = 2; 8 * put(0, 0, 0, 0) = 1
             clientAt(0, 3) = 8; clientAt(0, 4) = 2; clientAt(1, 3) = 1; clientAt(1, 4) = 0
@@ -187,12 +181,12 @@ public final class Section3Test {
             clientAt(0, 2) = 5
             leave(0) = 0; come(0, 0) = 0; clientAt(0, 2) = 5; log(0, 0) = 4; put(0, 0, 0, 0) = 1; log(0, 0) = 5
             """);
-        Calls.run("what is KEPT comes into a LOG that is full", ONE_CLIENT + """
+        Calls.run("what is KEPT comes into a LOG that is full", Setup.ONE_CLIENT + """
             12 * put(0, 0, 0, 0) = 1; leave(0) = 0; 8 * put(0, 0, 0, 0) = 1; log(0, 0) = 11; log(0, 11) = 0
             come(0, 0) = 8
             log(0, 0) = 19; log(0, 7) = 12; log(0, 8) = 11; log(0, 11) = 8; clientAt(0, 2) = 20
             """);
-        Calls.run("what is KEPT comes, though the WISH is gone", ONE_CLIENT + """
+        Calls.run("what is KEPT comes, though the WISH is gone", Setup.ONE_CLIENT + """
             leave(0) = 0; put(0, 0, 0, 0) = 1; drop(0) = 0; put(0, 0, 0, 0) = 0; clientAt(0, 3) = 1; come(0, 0) = 1
             log(0, 0) = 0; clientAt(0, 2) = 1
             """);
