@@ -15,6 +15,8 @@ public final class NoticeBoxes {
     private static final int IMAGES = 2;
     private static final int THINGS = 3;
     private static final int BOUNDS = 6;
+    private static final int ALL_NOTICES = 1000;
+    private static final int SEED_BITS = 0x7FFFFFFF;
 
     private static final int ANY = 0, AT_MOST = 1, AT_LEAST = 2, JUST = 3;
 
@@ -378,7 +380,8 @@ public final class NoticeBoxes {
 
         /** The box that two of these make, those by which least is wasted. */
         int cheapestJoin() {
-            int least = Integer.MAX_VALUE;
+            // No waste is as large as this: the two boxes themselves are never wasted.
+            int least = ALL_NOTICES;
             int cheapest = 0;
             for (int i = 0; i < count; i++) {
                 for (int j = i + 1; j < count; j++) {
@@ -792,7 +795,7 @@ public final class NoticeBoxes {
         int value;
 
         int draw(int n) {
-            value = (value * 1103515245 + 12345) & Integer.MAX_VALUE;
+            value = (value * 1103515245 + 12345) & SEED_BITS;
             return n > 0 ? value / 65536 % n : 0;
         }
     }
